@@ -363,6 +363,27 @@ public final class ChunkVersionsPromises {
         due(10, "the state after a refused merge", state(x), before);
     }
 
+    /** One conflict alone, at the first and at the last key. */
+    private static void oneConflict() {
+        for (int key : new int[] {0, 63}) {
+            for (int side = 0; side < 3; side++) {
+                ChunkVersions x = new ChunkVersions();
+                x.put(key, 1);
+                x.commit();
+                x.change(1);
+                x.put(key, 2);
+                x.commit();
+                x.branch(2);
+                due(26, "conflicts(2, 1) at key " + key, x.conflicts(2, 1), 1);
+                due(10, "merge(0, " + side + ") with a conflict at key " + key, x.merge(0, side), side == 2 ? -5 : 1);
+                due(10, "value(" + key + ") after it", x.value(key), side == 1 ? 1 : 2);
+                x.change(2);
+                due(11, "pick(1, " + side + ") with a conflict at key " + key, x.pick(1, side), side == 2 ? -6 : 1);
+                due(11, "value(" + key + ") after it", x.value(key), side == 1 ? 1 : 2);
+            }
+        }
+    }
+
     private static void mergeWithoutConflicts() {
         for (int side = 0; side < 3; side++) {
             ChunkVersions x = new ChunkVersions();
@@ -748,6 +769,7 @@ public final class ChunkVersionsPromises {
         change();
         branch();
         mergeWithConflicts();
+        oneConflict();
         mergeWithoutConflicts();
         mergeAlongOneLine();
         mergeRefusals();
